@@ -2,6 +2,7 @@
 final class Due {
     private static final int MOST_PRINTED = 40;
     private final String test;
+    private String under = "";
     private int asked;
     private int wrong;
 
@@ -9,14 +10,23 @@ final class Due {
         this.test = test;
     }
 
+    /** What the answers that follow belong to. */
+    void under(String name) {
+        under = name + ": ";
+    }
+
     void is(String what, long got, long want) {
         asked++;
         if (got != want) {
             wrong++;
             if (wrong <= MOST_PRINTED) {
-                System.out.println(test + ": " + what + " answered " + got + ", due is " + want);
+                System.out.println(test + ": " + under + what + " answered " + got + ", due is " + want);
             }
         }
+    }
+
+    int asked() {
+        return asked;
     }
 
     boolean anyWrong() {
